@@ -2,11 +2,12 @@ import java.util.ArrayList;
 import java.util.List;
 
 /**
- * Compares the class with a second writing of the document, over strings: on all short texts, and on long
- * runs of calls, wrong ones among them, that a fixed sequence of numbers chooses.
+ * Compares the class with a second writing of the document, over strings: on all short texts, and on runs of
+ * calls up to the 512th, wrong ones among them, that a fixed sequence of numbers chooses.
  */
 public final class ModelTest {
     private static final int SHOWN = 20;
+    private static final int CALLS = 512;
     private static final int MIN = Integer.MIN_VALUE;
     private static final int MAX = Integer.MAX_VALUE;
 
@@ -19,6 +20,9 @@ public final class ModelTest {
         allTexts(2, 12);
         for (int k = 0; k < 3000; k++) {
             runOfCalls();
+        }
+        for (int k = 0; k < 200; k++) {
+            longestRunOfCalls();
         }
         System.out.println(wrong == 0 ? "all answers are as due" : wrong + " answers are not as due");
         if (wrong != 0) {
@@ -65,10 +69,14 @@ public final class ModelTest {
     }
 
     private static void runQuestions(RunFinder x, String text, List<int[]> runs, int n) {
-        boolean there = n >= 0 && n < runs.size();
-        due(text, "begin(" + n + ")", x.begin(n), there ? runs.get(n)[0] : RunFinder.NONE);
-        due(text, "end(" + n + ")", x.end(n), there ? runs.get(n)[1] : RunFinder.NONE);
-        due(text, "period(" + n + ")", x.period(n), there ? runs.get(n)[2] : RunFinder.NONE);
+        due(text, "begin(" + n + ")", x.begin(n), modelRun(runs, n, 0));
+        due(text, "end(" + n + ")", x.end(n), modelRun(runs, n, 1));
+        due(text, "period(" + n + ")", x.period(n), modelRun(runs, n, 2));
+    }
+
+    /** Part 0, 1 or 2 of run number n: its beginning, end or period. */
+    private static int modelRun(List<int[]> runs, int n, int part) {
+        return n >= 0 && n < runs.size() ? runs.get(n)[part] : RunFinder.NONE;
     }
 
     private static int modelPeriod(String stretch) {
@@ -165,6 +173,36 @@ public final class ModelTest {
         // 24 changes, at most 31 runs asked for with 3 calls each, and the reading stay below 512 calls.
         questions(x, text);
         sameText(x, text);
+    }
+
+    /** Changes and questions mixed, so that an answer kept from before a change is seen. */
+    private static void longestRunOfCalls() {
+        RunFinder x = new RunFinder();
+        String text = "";
+        int letters = 1 + next(4);
+        for (int call = 0; call < CALLS; call++) {
+            if (next(2) == 0) {
+                text = change(x, text, letters);
+            } else {
+                question(x, text);
+            }
+        }
+    }
+
+    private static void question(RunFinder x, String text) {
+        List<int[]> runs = modelRuns(text);
+        int n = number(runs.size());
+        switch (next(9)) {
+            case 0: due(text, "runs()", x.runs(), runs.size()); break;
+            case 1: due(text, "begin(" + n + ")", x.begin(n), modelRun(runs, n, 0)); break;
+            case 2: due(text, "end(" + n + ")", x.end(n), modelRun(runs, n, 1)); break;
+            case 3: due(text, "period(" + n + ")", x.period(n), modelRun(runs, n, 2)); break;
+            case 4: due(text, "squares()", x.squares(), modelSquares(text)); break;
+            case 5: due(text, "wholePeriod()", x.wholePeriod(), modelPeriod(text)); break;
+            case 6: due(text, "smallestEnd()", x.smallestEnd(), modelSmallestEnd(text)); break;
+            case 7: due(text, "factors()", x.factors(), modelFactors(text)); break;
+            default: due(text, "smallestTurn()", x.smallestTurn(), modelSmallestTurn(text)); break;
+        }
     }
 
     private static String change(RunFinder x, String text, int letters) {
